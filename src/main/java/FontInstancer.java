@@ -773,10 +773,10 @@ public final class FontInstancer {
             touched &= ~(1 << place);
         }
 
-        /** Adds what another tuple gives to the places that both touch. */
+        /** Adds the deltas of another tuple, which touches the same places. */
         void addDeltas(Tuple other) {
             for (int place = 0; place < PLACES; place++) {
-                if (touches(place) && other.touches(place)) {
+                if (touches(place)) {
                     x[place] += other.x[place];
                     y[place] += other.y[place];
                 }
@@ -828,10 +828,7 @@ public final class FontInstancer {
 
         void begin(boolean isComposite, int advance) {
             composite = isComposite;
-            size = 0;
-            tupleCount = 0;
             x[ADVANCE] = advance;
-            y[ADVANCE] = 0;
         }
 
         void copyFrom(Glyph other) {
@@ -850,11 +847,7 @@ public final class FontInstancer {
         /** Adds a point where there is room for it; its number. */
         int appendPoint(int px, int py, boolean starts) {
             appendPlace(px, py);
-            if (size == 1) {
-                contour[size] = 0;
-            } else {
-                contour[size] = contour[size - 1] + (starts ? 1 : 0);
-            }
+            contour[size] = size == 1 ? 0 : contour[size - 1] + (starts ? 1 : 0);
             return size - 1;
         }
 
@@ -865,13 +858,11 @@ public final class FontInstancer {
             return size - 1;
         }
 
+        /** No tuple touches the new place, as tuples touch only places that are there. */
         private void appendPlace(int px, int py) {
             size++;
             x[size] = px;
             y[size] = py;
-            for (int tuple = 0; tuple < tupleCount; tuple++) {
-                tuples[tuple].dropTouch(size);
-            }
         }
 
         boolean hasChild(int glyph) {
@@ -887,9 +878,9 @@ public final class FontInstancer {
         long placeAt(int place, boolean vertical, int[] coordinates, int chosenAxes) {
             long sum = 0;
             for (int tuple = 0; tuple < tupleCount; tuple++) {
-                if (tuples[tuple].dependsOnlyOn(chosenAxes)) {
-                    long scalar = tuples[tuple].scalarAt(coordinates);
-                    sum += scalar == 0 ? 0 : scalar * deltaAt(tuples[tuple], place, vertical);
+                long scalar = tuples[tuple].dependsOnlyOn(chosenAxes) ? tuples[tuple].scalarAt(coordinates) : 0;
+                if (scalar != 0) {
+                    sum += scalar * deltaAt(tuples[tuple], place, vertical);
                 }
             }
             return (vertical ? y[place] : x[place]) + roundedQuotient(sum, WHOLE);
@@ -1200,7 +1191,7 @@ public final class FontInstancer {
         int readItems(int axisCount, int pinned) {
             namedAxes = 0;
             int at = 0;
-            for (int items = 1; items <= MOST_AXES + 1; items++) {
+            for (int items = 1; items <= MOST_AXES; items++) {
                 int axis = axisAt(at, axisCount, pinned);
                 if (axis < 0) {
                     return FAULT_AT_START - at;
@@ -1221,6 +1212,7 @@ public final class FontInstancer {
                 }
                 at++;
             }
+            // Every axis has been named, so that no letter is allowed here.
             return FAULT_AT_START - at;
         }
 
