@@ -198,6 +198,11 @@ public final class OutlinesTest {
         g.addPoint(1, 3, 5, true);
         g.addPoint(1, 4, 4, false);
         Check.due("25 nothing of an earlier outline is left", g.area(1, 1), 0);
+        g.addGlyph(false, 0);
+        g.addPoint(2, 1, 1, true);
+        g.addPoint(2, 3, 1, false);
+        g.addPoint(2, 3, 4, false);
+        Check.due("25 away from (0, 0)", g.area(2, 0), 6);
     }
 
     private static void flips() {
@@ -260,6 +265,10 @@ public final class OutlinesTest {
         Check.due("26 from 0 to 0", f.flips(0), 0);
         f.touch(1, 0, 2, 0, -3);
         Check.due("26 from above 0 to below 0", f.flips(1), 1);
+        f.touch(0, 0, 1, -9, 0);
+        f.touch(0, 0, 2, 0, 1);
+        Check.due("25 the least area", f.area(0, 0), 1);
+        Check.due("26 from 0 to 1", f.flips(0), 1);
     }
 
     private static void flipsAgainstUnvariedTuples() {
