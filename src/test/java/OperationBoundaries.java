@@ -324,6 +324,30 @@ final class OperationBoundaries {
             release(0, 0, 2) = 1
             delta(0, 0, 2, false) = 295
             """);
+        // The tuple that is folded in moves point 0 away, between the two others in number.
+        String three = """
+            addTuple(0); setRegion(0, 0, 1, 0, 1, 1); touch(0, 0, 0, 0, 0); touch(0, 0, 3, 90, 0)
+            addTuple(0); setRegion(0, 1, 0, 0, 1, 1); touch(0, 1, 0, 900, 7); touch(0, 1, 3, 0, 7)
+            addTuple(0); setRegion(0, 2, 1, 0, 1, 1); touch(0, 2, 0, 60, 0); touch(0, 2, 2, 0, 0)
+            setCoordinate(0, 1); pin(0, true)
+            """;
+        Boundary.says(0, words).runs(LINE + three + """
+            fold(0) = 1
+            position(0, 0, 0) = 900; position(0, 1, 0) = 610; position(0, 2, 0) = 320; position(0, 3, 0) = 30
+            position(0, 1, 1) = 7; position(0, -1, 0) = 500
+            glyphValue(0, 4) = 2; touchedCount(0, 0) = 5; touchedCount(0, 1) = 5
+            delta(0, 0, 1, false) = 30; delta(0, 0, 2, false) = 60
+            delta(0, 1, 1, false) = 30; delta(0, 1, 3, false) = 0
+            setRegion(0, 0, 1, 0, 1, 1) = 0; setRegion(0, 1, 1, 0, 1, 1) = 0
+            """);
+        // The first of the tuples is folded in, and it moves points from which others are inferred.
+        Boundary.says(0, words).runs(LINE + """
+            addTuple(0); touch(0, 0, 0, 900, 0); touch(0, 0, 3, 0, 0)
+            addTuple(0); setRegion(0, 1, 1, 0, 1, 1)
+            fold(0) = 1
+            position(0, 0, 0) = 900; position(0, 1, 0) = 610; position(0, 2, 0) = 320; position(0, 3, 0) = 30
+            touchedCount(0, 0) = 5
+            """);
         // Without points the advance alone is touched.
         Boundary.says(0, words).runs("""
             addAxis(-1, 0, 1); addGlyph(false, 0); addTuple(0); addTuple(0); setRegion(0, 1, 0, 0, 1, 1)
@@ -350,6 +374,26 @@ final class OperationBoundaries {
             addTuple(0); setRegion(0, 0, 0, 0, 16384, 16384); touch(0, 0, 0, 1, -1); touch(0, 0, -1, -3, 0)
             fold(0) = 1
             position(0, 0, 0) = 2; position(0, 0, 1) = -1; position(0, -1, 0) = 499
+            """);
+        // Just below a half, and just above it.
+        Boundary.says(0, folding()).runs("""
+            addAxis(-16384, 0, 16384); setCoordinate(0, 1); pin(0, true)
+            addGlyph(false, 100); addPoint(0, 0, 0, true)
+            addTuple(0); setRegion(0, 0, 0, 0, 14, 14); touch(0, 0, 0, 7, -7); touch(0, 0, -1, 7, 0)
+            fold(0) = 1
+            position(0, 0, 0) = 0; position(0, 0, 1) = 0; position(0, -1, 0) = 100
+            addTuple(0); setRegion(0, 0, 0, 0, 6, 6); touch(0, 0, 0, 3, -3); touch(0, 0, -1, 3, 0)
+            fold(0) = 1
+            position(0, 0, 0) = 1; position(0, 0, 1) = -1; position(0, -1, 0) = 101
+            """);
+        // A half, beside a tuple that is not folded in and would bring it below a half.
+        Boundary.says(0, folding()).runs("""
+            addAxis(-16384, 0, 16384); addAxis(-16384, 0, 16384); setCoordinate(0, 8192); setCoordinate(1, 16384)
+            pin(0, true); addGlyph(false, 100); addPoint(0, 0, 0, true)
+            addTuple(0); setRegion(0, 0, 1, 0, 16384, 16384); touch(0, 0, 0, -2000, 2000); touch(0, 0, -1, -2000, 0)
+            addTuple(0); setRegion(0, 1, 0, 0, 16384, 16384); touch(0, 1, 0, 1, -1); touch(0, 1, -1, 1, 0)
+            fold(0) = 1
+            position(0, 0, 0) = 1; position(0, 0, 1) = 0; position(0, -1, 0) = 101
             """);
         // Base positions beyond what addPoint and addGlyph allow.
         Boundary.says(0, folding()).runs("""

@@ -101,6 +101,26 @@ final class OutlineBoundaries {
             setCoordinate(0, -1)
             position(0, 0, 2) = -7; position(0, 0, 3) = 7; position(0, -1, 2) = 100
             """);
+        // Just below a half, a half, and just above it: the sums are 2^27 - 1, 2^27 and 2^27 + 1, and those below 0.
+        Boundary.says(0, words).runs("""
+            addAxis(-16384, 0, 16384); setCoordinate(0, 1)
+            addGlyph(false, 100); addPoint(0, 0, 0, true); addTuple(0)
+            setRegion(0, 0, 0, 0, 14, 14); touch(0, 0, 0, 7, -7); touch(0, 0, -1, 7, 0)
+            position(0, 0, 2) = 0; position(0, 0, 3) = 0; position(0, -1, 2) = 100
+            setRegion(0, 0, 0, 0, 2, 2); touch(0, 0, 0, 1, -1); touch(0, 0, -1, 1, 0)
+            position(0, 0, 2) = 1; position(0, 0, 3) = 0; position(0, -1, 2) = 101
+            setRegion(0, 0, 0, 0, 6, 6); touch(0, 0, 0, 3, -3); touch(0, 0, -1, 3, 0)
+            position(0, 0, 2) = 1; position(0, 0, 3) = -1; position(0, -1, 2) = 101
+            """);
+        // The least scalar above 0 lifts 2^27 - 1 to a half.
+        Boundary.says(0, words).runs("""
+            addAxis(-16384, 0, 16384); addAxis(-16384, 0, 16384); setCoordinate(0, 1); setCoordinate(1, 1)
+            addGlyph(false, 0); addPoint(0, 0, 0, true); addTuple(0); addTuple(0)
+            setRegion(0, 0, 0, 0, 14, 14); touch(0, 0, 0, 7, 7)
+            setRegion(0, 1, 0, 0, 16384, 16384); setRegion(0, 1, 1, 0, 16384, 16384); touch(0, 1, 0, 1, 0)
+            scalar(0, 1) = 1
+            position(0, 0, 2) = 1; position(0, 0, 3) = 0
+            """);
         // The offset of a component, and an advance below 0 and above 4000.
         Boundary.says(0, words).runs("""
             addGlyph(false, 4000); addGlyph(true, 0); addComponent(1, 0, -4000, 4000)
@@ -281,15 +301,15 @@ final class OutlineBoundaries {
             """);
     }
 
-    /** A contour with twice the area 10 * height that is 10 * (height + change) at the present location. */
+    /** A contour with twice the area height that is height + change at the present location. */
     private static void flip(int height, int change, int due) {
         Boundary.says(26, "Counts the contours of the outline of a glyph whose area at the present location has another"
                 + " sign (above 0, 0, below 0) than it would have if all coordinates were 0.").runs("""
-            addAxis(-16384, 0, 16384); addGlyph(false, 0); addPoint(0, 0, 0, true); addPoint(0, 10, 0, false)
+            addAxis(-16384, 0, 16384); addGlyph(false, 0); addPoint(0, 0, 0, true); addPoint(0, 1, 0, false)
             addTuple(0); setRegion(0, 0, 0, 0, 16384, 16384); touch(0, 0, 0, 0, 0); touch(0, 0, 1, 0, 0)
-            """).runs("addPoint(0, 10, " + height + ", false); touch(0, 0, 2, 0, " + change + ")")
+            """).runs("addPoint(0, 1, " + height + ", false); touch(0, 0, 2, 0, " + change + ")")
                 .asks("flips(0) = 0").runs("setCoordinate(0, 16384)")
-                .asks("flips(0) = " + due + "; area(0, 0) = " + 10 * (height + change))
+                .asks("flips(0) = " + due + "; area(0, 0) = " + (height + change))
                 .runs("pin(0, true)").asks("flips(0) = " + due)
                 .runs("addGlyph(true, 0); addComponent(1, 0, 0, 0); addComponent(1, 0, 50, 50)")
                 .asks("flips(1) = " + 2 * due);

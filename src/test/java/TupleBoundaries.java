@@ -93,6 +93,11 @@ final class TupleBoundaries {
             addTuple(0) = 0
             touchedCount(0, 0) = 0; delta(0, 0, 0, false) = 0
             setRegion(0, 0, 0, 0, 0, 0) = 0
+            setRegion(0, 0, 1, 2, 2, 2) = 1; scalar(0, 0) = 0
+            prune(0) = 1
+            addTuple(0) = 0
+            scalar(0, 0) = 268435456
+            setRegion(0, 0, 1, 0, 0, 0) = 0
             """);
         Boundary.says(13, A_GLYPH).runs("""
             addTuple(0) = NO_SUCH_GLYPH
