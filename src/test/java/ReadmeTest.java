@@ -28,9 +28,9 @@ public final class ReadmeTest {
         String readme = Files.readString(Path.of("README.md"));
         Path folder = Files.createTempDirectory("readme");
         try {
-            List<SmallProject> small = startSmallProjects(folder, blocks(readme, "sh").get(1));
             commands(readme, folder.resolve("copy"));
-            endSmallProjects(small);
+            // A folder for temporary files may forbid to execute what lies in it.
+            refusals(folder, "bash " + blocks(readme, "sh").get(1));
         } finally {
             delete(folder);
         }
@@ -66,11 +66,9 @@ public final class ReadmeTest {
         for (Path test : files()) {
             oneTest.write("project/" + test, Files.readString(test));
         }
-        use.start(commands.get(0));
-        oneTest.start(commands.get(2));
-        use.ends(true);
+        use.ends(commands.get(0), true);
         Check.dueText("what the program prints", use.printed(), blocks(readme, "text").get(0));
-        oneTest.ends(true);
+        oneTest.ends(commands.get(2), true);
         String wanted = "ExamplesTest: \\d+ checks, 0 wrong\n";
         Check.dueText("what one test prints", oneTest.printed().matches(wanted) ? wanted : oneTest.printed(), wanted);
     }
@@ -140,40 +138,32 @@ public final class ReadmeTest {
         }
     }
 
-    /** What .ci/run has to refuse, each in a project of its own; the first one is to pass. */
-    private static List<SmallProject> startSmallProjects(Path folder, String command) throws IOException {
+    /** What the command has to refuse, each in a project of its own; the first one is to pass. */
+    private static void refusals(Path folder, String command) throws IOException, InterruptedException {
         String own = "project/" + TESTS;
         String shared = "shared/tests";
-        List<SmallProject> all = new ArrayList<>();
-        all.add(small(folder, "all tests pass").test(own, "SecondTest", 0).test(shared, "SharedRuns2", 0));
-        all.add(small(folder, "one of the project fails").test(own, "SecondTest", 1));
-        all.add(small(folder, "one under ../shared/tests fails").test(shared, "SharedRuns2", 1));
-        all.add(small(folder, "one of the project does not compile").write(own + "/Helper.java", "class Helper"));
-        all.add(small(folder, "one under ../shared/tests does not compile").write(shared + "/SharedRuns2.java", "class"));
-        all.add(small(folder, "one has another name").test(own, "Second", 0));
-        all.add(small(folder, "one is in another folder").test(shared + "/more", "SharedRuns2", 0));
-        all.add(new SmallProject("none is under ../shared/tests", folder.resolve("none")).test(own, "FirstTest", 0));
-        for (SmallProject project : all) {
-            project.start(command);
-        }
-        return all;
+        small(folder, "all tests pass").test(own, "SecondTest", 0).test(shared, "SharedRuns2", 0)
+                .ends(command, true, "FirstTest ran", "SecondTest ran", "SharedRuns1 ran", "SharedRuns2 ran",
+                        "4 passed, 0 failed");
+        small(folder, "one of the project fails").test(own, "SecondTest", 1)
+                .ends(command, false, "FirstTest ran", "FAILED: SecondTest", "SharedRuns1 ran", "2 passed, 1 failed");
+        small(folder, "one under ../shared/tests fails").test(shared, "SharedRuns2", 1)
+                .ends(command, false, "FirstTest ran", "SharedRuns1 ran", "FAILED: SharedRuns2", "2 passed, 1 failed");
+        small(folder, "one of the project does not compile").write(own + "/Helper.java", "class Helper")
+                .ends(command, false, "FAILED: the project does not compile");
+        small(folder, "one under ../shared/tests does not compile").write(shared + "/SharedRuns2.java", "class")
+                .ends(command, false, "SharedRuns1 ran", "FAILED: SharedRuns2 does not compile", "2 passed, 1 failed");
+        small(folder, "one has another name").test(own, "Second", 0)
+                .ends(command, false, "FAILED: of 3 tests, some were left out", "2 passed, 1 failed");
+        small(folder, "one is in another folder").test(shared + "/more", "SharedRuns2", 0)
+                .ends(command, false, "FAILED: of 3 tests, some were left out", "2 passed, 1 failed");
+        new SmallProject("none is under ../shared/tests", folder.resolve("none")).test(own, "FirstTest", 0)
+                .ends(command, false, "FAILED: there is no test under ../shared/tests", "1 passed, 1 failed");
     }
 
     private static SmallProject small(Path folder, String label) throws IOException {
         return new SmallProject(label, folder.resolve(label.replaceAll("\\W+", "_")))
                 .test("project/" + TESTS, "FirstTest", 0).test("shared/tests", "SharedRuns1", 0);
-    }
-
-    private static void endSmallProjects(List<SmallProject> all) throws IOException, InterruptedException {
-        all.get(0).ends(true, "FirstTest ran", "SecondTest ran", "SharedRuns1 ran", "SharedRuns2 ran",
-                "4 passed, 0 failed");
-        all.get(1).ends(false, "FirstTest ran", "FAILED: SecondTest", "SharedRuns1 ran", "2 passed, 1 failed");
-        all.get(2).ends(false, "FirstTest ran", "SharedRuns1 ran", "FAILED: SharedRuns2", "2 passed, 1 failed");
-        all.get(3).ends(false, "FAILED: the project does not compile");
-        all.get(4).ends(false, "SharedRuns1 ran", "FAILED: SharedRuns2 does not compile", "2 passed, 1 failed");
-        all.get(5).ends(false, "FAILED: of 3 tests, some were left out", "2 passed, 1 failed");
-        all.get(6).ends(false, "FAILED: of 3 tests, some were left out", "2 passed, 1 failed");
-        all.get(7).ends(false, "FAILED: there is no test under ../shared/tests", "1 passed, 1 failed");
     }
 
     private static void delete(Path folder) throws IOException {

@@ -1,7 +1,6 @@
 import java.io.IOException;
 import java.nio.file.Files;
 import java.nio.file.Path;
-import java.util.concurrent.TimeUnit;
 
 /** A folder with the project's .ci/run, an empty class and small tests, to see what .ci/run makes of them. */
 final class SmallProject {
@@ -9,7 +8,6 @@ final class SmallProject {
 
     private final String label;
     private final Path root;
-    private Process process;
 
     SmallProject(String label, Path root) throws IOException {
         this.label = label;
@@ -36,28 +34,16 @@ final class SmallProject {
         return this;
     }
 
-    /** Starts the command in the project's folder; several projects are at work at the same time. */
-    SmallProject start(String command) throws IOException {
-        process = new ProcessBuilder("bash", "-e", "-c", command).directory(root.resolve("project").toFile())
+    /** Runs the command in the project's folder, and looks for the lines in what it prints. */
+    void ends(String command, boolean well, String... lines) throws IOException, InterruptedException {
+        Process process = new ProcessBuilder("bash", "-e", "-c", command).directory(root.resolve("project").toFile())
                 .redirectOutput(root.resolve("printed").toFile())
                 .redirectError(root.resolve("errors").toFile()).start();
-        return this;
-    }
-
-    /** Waits for the end, and looks for the lines in what was printed. */
-    void ends(boolean well, String... lines) throws IOException, InterruptedException {
-        boolean ended = process.waitFor(5, TimeUnit.MINUTES);
-        Check.due(label + ": ends", ended ? 1 : 0, 1);
-        if (!ended) {
-            process.destroyForcibly();
-            return;
-        }
-        boolean right = (process.exitValue() == 0) == well;
+        boolean right = (process.waitFor() == 0) == well;
         Check.dueText(label + ": ends", right ? "as due" : "with exit code " + process.exitValue() + ": "
                 + Files.readString(root.resolve("errors")), "as due");
-        String printed = printed();
         for (String line : lines) {
-            Check.dueText(label + ": prints", printed.lines().toList().contains(line) ? line : printed, line);
+            Check.dueText(label + ": prints", printed().lines().toList().contains(line) ? line : printed(), line);
         }
     }
 
